@@ -26,6 +26,10 @@ public final class GossipOverlay {
     private static final int MAX_ACTIVE = 4;
     private static final int MAX_PASSIVE = 8;
     private static final int MAX_TIMEOUT = 8;
+    private static final int ACTIVE_PLACES = MAX_NODES * MAX_ACTIVE;
+    private static final int PASSIVE_PLACES = MAX_NODES * MAX_PASSIVE;
+    private static final int WAITS = MAX_NODES * MAX_BROADCASTS;
+    private static final int ALL_IDS = 0xffff;
     private static final int MAX_INT = 0x7fffffff;
     private static final int NONE = -1;
     // Kinds start at 1, so no message has the code 0.
@@ -38,14 +42,14 @@ public final class GossipOverlay {
 
     private final boolean[] alive = new boolean[MAX_NODES];
     // Row x of a view holds the list of node x; only its first size entries count.
-    private final int[] active = new int[MAX_NODES * MAX_ACTIVE];
+    private final int[] active = new int[ACTIVE_PLACES];
     private final int[] activeSize = new int[MAX_NODES];
-    private final int[] passive = new int[MAX_NODES * MAX_PASSIVE];
+    private final int[] passive = new int[PASSIVE_PLACES];
     private final int[] passiveSize = new int[MAX_NODES];
     private final int[] eagerPeers = new int[MAX_NODES];
     private final int[] deliveredIds = new int[MAX_NODES];
-    private final int[] announcers = new int[MAX_NODES * MAX_BROADCASTS];
-    private final int[] timers = new int[MAX_NODES * MAX_BROADCASTS];
+    private final int[] announcers = new int[WAITS];
+    private final int[] timers = new int[WAITS];
     private final int[] slots = new int[POOL];
     private int broadcastsMade = 0;
     private int lostSends = 0;
@@ -176,7 +180,7 @@ public final class GossipOverlay {
         int grafts = 0;
         for (int x = 0; x < nodeCount; x++) {
             for (int id = 0; id < MAX_BROADCASTS; id++) {
-                if (alive[x] && timerRunsOut(x, id)) {
+                if (alive[x] && countDownEnds(x, id)) {
                     graftNextAnnouncer(x, id);
                     grafts++;
                 }
@@ -436,7 +440,7 @@ public final class GossipOverlay {
         return mask;
     }
 
-    /** Removes peer from the active view and the eager set of x, and tells whether it was there. */
+    // The eager set is a part of the active view, so who leaves the one leaves the other.
     private boolean removeActive(int x, int peer) {
         int kept = 0;
         int size = activeSize[x];
@@ -494,13 +498,13 @@ public final class GossipOverlay {
         activeSize[x] = 0;
         passiveSize[x] = 0;
         eagerPeers[x] = 0;
-        stopWaitingFor(x, 0xffff);
+        stopWaitingFor(x, ALL_IDS);
     }
 
     // ---- Eager links and timers ----
 
     private void makeEager(int x, int peer) {
-        // The eager set is a part of the active view at all times.
+        // A message may come from a node that has left the active view, or never was in it.
         if (isActive(x, peer)) {
             eagerPeers[x] |= 1 << peer;
         }
@@ -515,8 +519,7 @@ public final class GossipOverlay {
         }
     }
 
-    /** Counts the timer down, and tells whether that ended it with an announcer left to ask. */
-    private boolean timerRunsOut(int x, int id) {
+    private boolean countDownEnds(int x, int id) {
         int cell = x * MAX_BROADCASTS + id;
         if (timers[cell] == 0) {
             return false;

@@ -117,7 +117,7 @@ final class Kit {
         }
     }
 
-    /** Node x alone takes y into its active view. The pool must be empty, and is empty afterwards. */
+    /** Node x alone takes the peers into its active view. Pool and D(x) must be empty; the pool is so afterwards. */
     static void see(GossipOverlay g, int x, int... peers) {
         for (int y : peers) {
             g.join(y, x);

@@ -53,7 +53,7 @@ public final class LanguageTest {
         for (String line : code.split("\n")) {
             if (Pattern.compile("\\bnew\\b").matcher(line).find()) {
                 Kit.due(line.trim() + " is a field with its array", line.matches(
-                    "    private final (int|boolean)\\[\\] \\w+ = new \\1\\[[A-Z_]+( \\* [A-Z_]+)?\\];"), true);
+                    "    private final (int|boolean)\\[\\] \\w+ = new \\1\\[[A-Z_]+\\];"), true);
             }
         }
     }
