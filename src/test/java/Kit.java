@@ -1,4 +1,6 @@
 import java.util.StringJoiner;
+import java.util.function.Function;
+import java.util.function.Supplier;
 
 /** What the tests share: the check itself, ways to show an object's state, ways to bring one about. */
 final class Kit {
@@ -10,14 +12,20 @@ final class Kit {
     static final int[] NOT_SLOTS = {Integer.MIN_VALUE, -64, -1, 64, 65, 128, Integer.MAX_VALUE};
 
     private static int wrong = 0;
+    private static String sentence = "";
 
     private Kit() {
+    }
+
+    /** The words of the document that the checks from here on are about; a wrong answer is told with them. */
+    static void says(String words) {
+        sentence = "[" + words + "] ";
     }
 
     static void due(String what, String got, String want) {
         if (!got.equals(want)) {
             wrong++;
-            System.out.println(what + " answered " + got + ", due is " + want);
+            System.out.println(sentence + what + " answered " + got + ", due is " + want);
         }
     }
 
@@ -27,6 +35,25 @@ final class Kit {
 
     static void due(String what, boolean got, boolean want) {
         due(what, Boolean.toString(got), Boolean.toString(want));
+    }
+
+    /** The call must be refused: it answers what is due and changes nothing. */
+    static void refused(Supplier<GossipOverlay> made, String what, Function<GossipOverlay, Object> call, Object want) {
+        due(what, String.valueOf(call.apply(made.get())), String.valueOf(want));
+        changesNothing(made, what, call);
+    }
+
+    /**
+     * The other calls answer after the call as before it, and a run of calls after it answers as it does on
+     * an object that never had the call.
+     */
+    static void changesNothing(Supplier<GossipOverlay> made, String what, Function<GossipOverlay, Object> call) {
+        GossipOverlay g = made.get();
+        GossipOverlay without = made.get();
+        String before = all(g);
+        call.apply(g);
+        due("after " + what + ", the state", all(g), before);
+        due("after " + what + ", a run of calls", future(g), future(without));
     }
 
     static void end() {
@@ -109,6 +136,24 @@ final class Kit {
         return nodes(g) + "\npool " + g.pending() + " {" + pool(g) + "} lost " + g.lost();
     }
 
+    /** What a fixed run of calls answers from here on. It tells even what no single call tells. */
+    static String future(GossipOverlay g) {
+        StringJoiner answers = new StringJoiner(" ");
+        int pick = 1;
+        for (int i = 0; i < 240; i++) {
+            pick = (pick * 75 + 74) % 65537;
+            int n = pick % 16;
+            switch (i % 6) {
+                case 0 -> answers.add("join " + g.join(n, pick / 16 % 16));
+                case 1 -> answers.add("broadcast " + g.broadcast(n));
+                case 2 -> answers.add("tick " + g.tick());
+                case 3 -> answers.add("shuffle " + g.shuffle(n));
+                default -> answers.add("deliver " + g.deliver(pick / 16 % 64));
+            }
+        }
+        return answers + "\n" + all(g);
+    }
+
     // ---- Bringing about ----
 
     static void dropAll(GossipOverlay g) {
@@ -130,6 +175,42 @@ final class Kit {
     static void link(GossipOverlay g, int x, int y) {
         see(g, x, y);
         see(g, y, x);
+    }
+
+    /**
+     * Node y tells x of the nodes and of itself by a SHUFFLE, whose reply is dropped, so that x may take them
+     * into its passive view. The views of y must be empty, D(y) and the pool too; the active cap must hold
+     * x and the nodes.
+     */
+    static void tell(GossipOverlay g, int y, int x, int... nodes) {
+        see(g, y, x);
+        see(g, y, nodes);
+        g.shuffle(y);
+        g.deliver(0);
+        g.drop(0);
+    }
+
+    /**
+     * The announcer takes in a node that joins it, and of what it then sends the IHAVE alone is delivered. The
+     * pool must be empty, and is so afterwards.
+     */
+    static void announce(GossipOverlay g, int announcer, int to) {
+        g.join(to, announcer);
+        g.deliver(0);
+        dropAll(g);
+        settle(g);
+    }
+
+    /**
+     * Node x, that holds y, comes to hold it lazily: w, whose views are empty, pushes a broadcast to both, and
+     * x then pushes it to y, that has it. The pool must be empty, and D(w) too; the pool is empty afterwards.
+     */
+    static void makeLazy(GossipOverlay g, int w, int x, int y) {
+        see(g, w, y, x);
+        g.broadcast(w);
+        g.deliver(1);
+        g.deliver(0);
+        settle(g);
     }
 
     /** Fills the rest of the pool with JOINs from one node to another. */
