@@ -80,7 +80,7 @@ final class Kit {
 
     static String active(GossipOverlay g, int n) {
         StringJoiner all = new StringJoiner(" ");
-        for (int i = 0; g.activeAt(n, i) != -1; i++) {
+        for (int i = 0; i < 20 && g.activeAt(n, i) != -1; i++) {
             all.add(Integer.toString(g.activeAt(n, i)));
         }
         return all.toString();
@@ -88,7 +88,7 @@ final class Kit {
 
     static String passive(GossipOverlay g, int n) {
         StringJoiner all = new StringJoiner(" ");
-        for (int i = 0; g.passiveAt(n, i) != -1; i++) {
+        for (int i = 0; i < 20 && g.passiveAt(n, i) != -1; i++) {
             all.add(Integer.toString(g.passiveAt(n, i)));
         }
         return all.toString();

@@ -4,6 +4,7 @@ public final class Promise01BoundaryTest {
     private static final int MAX = Integer.MAX_VALUE;
 
     public static void main(String[] args) {
+        eachOnItsOwn();
         belowAndAbove();
         everyInt();
         nodes();
@@ -34,7 +35,7 @@ public final class Promise01BoundaryTest {
     private static int activeCapOf(GossipOverlay g) {
         int size = 0;
         Kit.see(g, 0, 1, 2, 3, 4, 5, 6, 7, 8);
-        while (g.activeAt(0, size) != -1) {
+        while (size < 20 && g.activeAt(0, size) != -1) {
             size++;
         }
         return size;
@@ -43,7 +44,7 @@ public final class Promise01BoundaryTest {
     private static int passiveCapOf(GossipOverlay g) {
         int size = 0;
         Kit.see(g, 0, 1, 2, 3, 4, 5, 6, 7, 8, 9, 10, 11, 12, 13, 14, 15);
-        while (g.passiveAt(0, size) != -1) {
+        while (size < 20 && g.passiveAt(0, size) != -1) {
             size++;
         }
         return size;
@@ -62,6 +63,18 @@ public final class Promise01BoundaryTest {
         Kit.due("ACAP of " + given, activeCapOf(new GossipOverlay(16, given, 2, 2)), activeCap);
         Kit.due("PCAP of " + given, passiveCapOf(new GossipOverlay(16, 2, given, 2)), passiveCap);
         Kit.due("TIMEOUT of " + given, timeoutOf(new GossipOverlay(16, 2, 2, given)), timeout);
+    }
+
+    private static void eachOnItsOwn() {
+        Kit.says("GossipOverlay(nodes, activeCap, passiveCap, timeout) clamps each argument.");
+        // One argument out of bounds does not touch the three beside it.
+        for (int wrong : new int[] {MIN, MAX}) {
+            Kit.due("N", nodesOf(new GossipOverlay(13, wrong, wrong, wrong)), 13);
+            Kit.due("ACAP", activeCapOf(new GossipOverlay(13, 3, wrong, wrong)), 3);
+            Kit.due("ACAP", activeCapOf(new GossipOverlay(MAX, 3, wrong, wrong)), 3);
+            Kit.due("PCAP", passiveCapOf(new GossipOverlay(MAX, wrong, 5, wrong)), 5);
+            Kit.due("TIMEOUT", timeoutOf(new GossipOverlay(wrong, wrong, wrong, 6)), 6);
+        }
     }
 
     private static void belowAndAbove() {

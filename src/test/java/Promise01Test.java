@@ -34,7 +34,7 @@ public final class Promise01Test {
         GossipOverlay g = new GossipOverlay(16, given, 3, 3);
         Kit.see(g, 0, 1, 2, 3, 4, 5, 6, 7, 8, 9);
         int size = 0;
-        while (g.activeAt(0, size) != -1) {
+        while (size < 20 && g.activeAt(0, size) != -1) {
             size++;
         }
         return size;
@@ -44,7 +44,7 @@ public final class Promise01Test {
         GossipOverlay g = new GossipOverlay(16, 2, given, 3);
         Kit.see(g, 0, 1, 2, 3, 4, 5, 6, 7, 8, 9, 10, 11, 12, 13);
         int size = 0;
-        while (g.passiveAt(0, size) != -1) {
+        while (size < 20 && g.passiveAt(0, size) != -1) {
             size++;
         }
         return size;

@@ -6,6 +6,7 @@ public final class Promise02BoundaryTest {
         notValid();
         itself();
         notAlive();
+        severalAtOnce();
         firstAndLastNode();
         fullPool();
         noViewChanges();
@@ -58,6 +59,18 @@ public final class Promise02BoundaryTest {
         refused(twoDead, 15, 2);
         refused(twoDead, 15, 0);
         refused(twoDead, 0, 15);
+    }
+
+    private static void severalAtOnce() {
+        Kit.says("join(n, c) is refused, answering false and changing nothing, if any of these holds:");
+        for (Supplier<GossipOverlay> made : States.OF_5) {
+            refused(made, -1, -1);
+            refused(made, 5, 5);
+            refused(made, 5, 2);
+            refused(made, 2, -1);
+            refused(made, 2, 2);
+            refused(made, Integer.MIN_VALUE, Integer.MAX_VALUE);
+        }
     }
 
     private static void firstAndLastNode() {

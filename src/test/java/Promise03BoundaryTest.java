@@ -11,7 +11,8 @@ public final class Promise03BoundaryTest {
         noActivePeer();
         goesToTheFirst();
         masks();
-        lastSlotAndFullPool();
+        sendsIntoTheLastSlot();
+        answersTrueInAFullPool();
         nothingElseChanges();
         Kit.end();
     }
@@ -113,17 +114,24 @@ public final class Promise03BoundaryTest {
         Kit.due("the pool", Kit.pool(dead), "0:SHUFFLE 0>1 " + (1 << 5 | 1 << 2 | 1));
     }
 
-    private static void lastSlotAndFullPool() {
+    private static void sendsIntoTheLastSlot() {
         Kit.says("SEND(n,q,SHUFFLE,m).");
         GossipOverlay g = new GossipOverlay(4, 2, 2, 2);
         Kit.see(g, 0, 1);
         for (int i = 0; i < 63; i++) {
             g.join(2, 3);
         }
-        Kit.due("shuffle(0) into the last free slot", g.shuffle(0), true);
+        g.shuffle(0);
         Kit.due("message(63)", g.message(63), 0x07010001);
         Kit.due("lost()", g.lost(), 0);
+    }
+
+    private static void answersTrueInAFullPool() {
         Kit.says("Answer true.");
+        GossipOverlay g = new GossipOverlay(4, 2, 2, 2);
+        Kit.see(g, 0, 1);
+        Kit.due("shuffle(0) into an empty pool", g.shuffle(0), true);
+        Kit.fillPool(g, 2, 3);
         Kit.due("shuffle(0) into no slot", g.shuffle(0), true);
         Kit.due("lost()", g.lost(), 1);
         Kit.due("shuffle(0) again", g.shuffle(0), true);

@@ -6,6 +6,7 @@ public final class Promise05BoundaryTest {
         notValid();
         notAlive();
         allMade();
+        severalAtOnce();
         idsFrom0To15();
         addedToTheOwnSet();
         everyPeerAddressed();
@@ -59,6 +60,16 @@ public final class Promise05BoundaryTest {
         refused(byOne, 0);
         refused(byOne, 1);
         refused(byOne, -1);
+    }
+
+    private static void severalAtOnce() {
+        Kit.says("broadcast(n) is refused, answering -1 and changing nothing, in each of these cases:");
+        for (int wrong : Kit.NOT_NODES_OF_16) {
+            refused(() -> States.spent(16), wrong);
+        }
+        refused(() -> States.spent(16), 2);
+        refused(() -> States.spent(5), 5);
+        refused(() -> States.spent(5), 2);
     }
 
     private static void idsFrom0To15() {

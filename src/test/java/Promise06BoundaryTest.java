@@ -10,6 +10,7 @@ public final class Promise06BoundaryTest {
         freeSlot();
         firstAndLastSlot();
         slotIsFreeFirst();
+        receiverAndSender();
         everyKindAnswersTrue();
         nothingElseChanges();
         Kit.end();
@@ -90,6 +91,16 @@ public final class Promise06BoundaryTest {
         lower.deliver(20);
         Kit.due("message(5), a LINK 0>1", lower.message(5), 0x03010000);
         Kit.due("message(20)", lower.message(20), -1);
+    }
+
+    private static void receiverAndSender() {
+        Kit.says("For a message (k, x, y, a), y is the receiver and x is the sender.");
+        GossipOverlay g = new GossipOverlay(16, 2, 2, 2);
+        g.join(15, 0);
+        g.deliver(0);
+        Kit.due("A(0), the receiver", Kit.active(g, 0), "15");
+        Kit.due("A(15), the sender", Kit.active(g, 15), "");
+        Kit.due("the pool, the receiver's answer", Kit.pool(g), "0:LINK 0>15 0");
     }
 
     private static void everyKindAnswersTrue() {

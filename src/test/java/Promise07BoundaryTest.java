@@ -10,6 +10,7 @@ public final class Promise07BoundaryTest {
         noSlot();
         freeSlot();
         keptKinds();
+        refusedIsStillThere();
         everyOtherKind();
         firstAndLastSlot();
         nothingElseChanges();
@@ -63,6 +64,18 @@ public final class Promise07BoundaryTest {
             }
         }
         Kit.due("the kinds that were tried", kinds, KEPT);
+    }
+
+    private static void refusedIsStillThere() {
+        Kit.says("drop(slot) is refused, answering false and changing nothing, in each of these cases:");
+        for (int slot = 0; slot < 64; slot++) {
+            GossipOverlay g = States.busy(16);
+            int code = g.message(slot);
+            if (code != -1 && !g.drop(slot)) {
+                Kit.due("message(" + slot + ") after a refused drop", g.message(slot), code);
+                Kit.due("deliver(" + slot + ") after a refused drop", g.deliver(slot), true);
+            }
+        }
     }
 
     private static void everyOtherKind() {

@@ -1,6 +1,7 @@
 /** Promise 8, its boundary cases: tick. */
 public final class Promise08BoundaryTest {
     public static void main(String[] args) {
+        oneStepForAll();
         nobodyAlive();
         nodesThenIdsAscending();
         countsDownByOne();
@@ -26,6 +27,29 @@ public final class Promise08BoundaryTest {
         }
         Kit.due("the pool", Kit.pool(g), "");
         return g;
+    }
+
+    private static void oneStepForAll() {
+        Kit.says("tick() performs one time step.");
+        // Every node but 0 waits for every id; the dead 9 no more.
+        GossipOverlay g = new GossipOverlay(16, 4, 2, 8);
+        for (int b = 0; b < 16; b++) {
+            g.broadcast(0);
+        }
+        for (int n = 1; n < 16; n++) {
+            Kit.announce(g, 0, n);
+        }
+        g.crash(9);
+        for (int left = 7; left > 0; left--) {
+            Kit.due("tick()", g.tick(), 0);
+            for (int n = 0; n < 16; n++) {
+                for (int b = 0; b < 16; b++) {
+                    int due = n == 0 || n == 9 ? 0 : 1 | left << 16;
+                    Kit.due("graftState(" + n + ", " + b + ")", g.graftState(n, b), due);
+                }
+            }
+        }
+        Kit.due("tick()", g.tick(), 14 * 16);
     }
 
     private static void nobodyAlive() {

@@ -9,7 +9,8 @@ public final class Promise10BoundaryTest {
     public static void main(String[] args) {
         activePlaces();
         passivePlaces();
-        noNode();
+        activeOfNoNode();
+        passiveOfNoNode();
         crashedNode();
         changeNothing();
         Kit.end();
@@ -73,7 +74,7 @@ public final class Promise10BoundaryTest {
         Kit.due("passiveAt(0, 1)", shrunk.passiveAt(0, 1), -1);
     }
 
-    private static void noNode() {
+    private static void activeOfNoNode() {
         Kit.says("activeAt(n, i) answers entry i of A(n). It answers -1 if n is not a valid node");
         for (int wrong : Kit.NOT_NODES_OF_16) {
             Kit.refused(() -> States.busy(16), "activeAt(" + wrong + ", 0)", g -> g.activeAt(wrong, 0), -1);
@@ -88,18 +89,21 @@ public final class Promise10BoundaryTest {
             Kit.due("activeAt(16, " + i + ")", g.activeAt(16, i), -1);
             Kit.due("activeAt(1 << 30, " + i + ")", g.activeAt(1 << 30, i), -1);
         }
+    }
+
+    private static void passiveOfNoNode() {
         Kit.says("passiveAt(n, i) answers entry i of P(n). It answers -1 if n is not a valid node");
         for (int wrong : Kit.NOT_NODES_OF_16) {
-            Kit.refused(() -> States.busy(16), "passiveAt(" + wrong + ", 0)", h -> h.passiveAt(wrong, 0), -1);
+            Kit.refused(() -> States.busy(16), "passiveAt(" + wrong + ", 0)", g -> g.passiveAt(wrong, 0), -1);
         }
-        GossipOverlay p = new GossipOverlay(5, 2, 8, 2);
-        Kit.see(p, 0, 1, 2, 3, 4);
-        Kit.see(p, 4, 0, 1, 2, 3);
+        GossipOverlay g = new GossipOverlay(5, 2, 8, 2);
+        Kit.see(g, 0, 1, 2, 3, 4);
+        Kit.see(g, 4, 0, 1, 2, 3);
         for (int i = -20; i <= 20; i++) {
-            Kit.due("passiveAt(-1, " + i + ")", p.passiveAt(-1, i), -1);
-            Kit.due("passiveAt(5, " + i + ")", p.passiveAt(5, i), -1);
-            Kit.due("passiveAt(16, " + i + ")", p.passiveAt(16, i), -1);
-            Kit.due("passiveAt(1 << 29, " + i + ")", p.passiveAt(1 << 29, i), -1);
+            Kit.due("passiveAt(-1, " + i + ")", g.passiveAt(-1, i), -1);
+            Kit.due("passiveAt(5, " + i + ")", g.passiveAt(5, i), -1);
+            Kit.due("passiveAt(16, " + i + ")", g.passiveAt(16, i), -1);
+            Kit.due("passiveAt(1 << 29, " + i + ")", g.passiveAt(1 << 29, i), -1);
         }
     }
 

@@ -6,6 +6,7 @@ public final class Promise11BoundaryTest {
     public static void main(String[] args) {
         isEagerOfNoNode();
         isEagerByTheSet();
+        deliveredFromNoneToAll();
         deliveredOfNoNode();
         deliveredOfACrashedNode();
         deliveredNeverShrinks();
@@ -54,6 +55,22 @@ public final class Promise11BoundaryTest {
         Kit.due("isEager(0, 0)", g.isEager(0, 0), false);
         g.crash(0);
         Kit.due("isEager(0, 1) of a dead node", g.isEager(0, 1), false);
+    }
+
+    private static void deliveredFromNoneToAll() {
+        Kit.says("delivered(n) answers the mask of D(n).");
+        GossipOverlay g = new GossipOverlay(16, 2, 2, 2);
+        Kit.see(g, 15, 0);
+        for (int b = 0; b < 16; b++) {
+            Kit.due("delivered(15)", g.delivered(15), (1 << b) - 1);
+            Kit.due("delivered(0)", g.delivered(0), (1 << b) - 1);
+            g.broadcast(15);
+            Kit.due("delivered(0), not yet reached", g.delivered(0), (1 << b) - 1);
+            g.deliver(0);
+        }
+        Kit.due("delivered(15)", g.delivered(15), 65535);
+        Kit.due("delivered(0)", g.delivered(0), 65535);
+        Kit.due("delivered(7), that was not reached", g.delivered(7), 0);
     }
 
     private static void deliveredOfNoNode() {

@@ -3,6 +3,7 @@ import java.util.Random;
 /** "State and shared steps", its first half: the state, and the terms used throughout. */
 public final class StateBoundaryTest {
     public static void main(String[] args) {
+        aliveOrNot();
         activeViewHasItsCap();
         passiveViewHasItsCap();
         eagerSetIsPartOfTheActiveView();
@@ -28,6 +29,19 @@ public final class StateBoundaryTest {
             all.append(i == from ? "" : " ").append(i);
         }
         return all.toString();
+    }
+
+    private static void aliveOrNot() {
+        Kit.says("alive(x);");
+        GossipOverlay g = new GossipOverlay(16, 2, 2, 2);
+        for (int n = 0; n < 16; n++) {
+            Kit.due("isAlive(" + n + ")", g.isAlive(n), true);
+        }
+        g.crash(0);
+        g.crash(15);
+        for (int n = 0; n < 16; n++) {
+            Kit.due("isAlive(" + n + ")", g.isAlive(n), n != 0 && n != 15);
+        }
     }
 
     private static void activeViewHasItsCap() {
