@@ -23,16 +23,7 @@ public final class Promise03BoundaryTest {
 
     private static void notValid() {
         Kit.says(REFUSED);
-        for (Supplier<GossipOverlay> made : States.OF_16) {
-            for (int wrong : Kit.NOT_NODES_OF_16) {
-                refused(made, wrong);
-            }
-        }
-        for (Supplier<GossipOverlay> made : States.OF_5) {
-            for (int wrong = 5; wrong <= 16; wrong++) {
-                refused(made, wrong);
-            }
-        }
+        States.refuseNoNode("shuffle", GossipOverlay::shuffle, false);
     }
 
     private static void notAlive() {
@@ -45,9 +36,7 @@ public final class Promise03BoundaryTest {
             return g;
         };
         refused(dead, 15);
-        for (Supplier<GossipOverlay> made : States.OF_5) {
-            refused(made, 2);
-        }
+        States.refuseTheDead("shuffle", GossipOverlay::shuffle, false);
     }
 
     private static void noActivePeer() {

@@ -25,31 +25,14 @@ public final class Promise04BoundaryTest {
         Kit.end();
     }
 
-    private static void refused(Supplier<GossipOverlay> made, int n) {
-        Kit.refused(made, "crash(" + n + ")", g -> g.crash(n), false);
-    }
-
     private static void notValid() {
         Kit.says(REFUSED);
-        for (Supplier<GossipOverlay> made : States.OF_16) {
-            for (int wrong : Kit.NOT_NODES_OF_16) {
-                refused(made, wrong);
-            }
-        }
-        for (Supplier<GossipOverlay> made : States.OF_5) {
-            for (int wrong = 5; wrong <= 16; wrong++) {
-                refused(made, wrong);
-            }
-        }
+        States.refuseNoNode("crash", GossipOverlay::crash, false);
     }
 
     private static void notAlive() {
         Kit.says(REFUSED);
-        refused(() -> States.busy(16), 2);
-        refused(() -> States.full(16), 2);
-        for (Supplier<GossipOverlay> made : States.OF_5) {
-            refused(made, 2);
-        }
+        States.refuseTheDead("crash", GossipOverlay::crash, false);
         // A dead node's number may still be the first entry of a passive view: no second repair comes of it.
         Supplier<GossipOverlay> listed = () -> {
             GossipOverlay g = new GossipOverlay(8, 2, 2, 2);
@@ -57,7 +40,7 @@ public final class Promise04BoundaryTest {
             g.crash(1);
             return g;
         };
-        refused(listed, 1);
+        Kit.refused(listed, "crash(1)", g -> g.crash(1), false);
     }
 
     private static void becomesDead() {
@@ -232,12 +215,20 @@ public final class Promise04BoundaryTest {
             GossipOverlay before = States.busy(16);
             g.crash(n);
             for (int x = 0; x < 16; x++) {
-                for (int i = 0; i < 4; i++) {
-                    boolean grown = before.activeAt(x, i) == -1 && g.activeAt(x, i) != -1;
-                    Kit.due("A(" + x + ") has grown by crash(" + n + ")", grown, false);
+                String held = " " + Kit.active(before, x) + " ";
+                for (int i = 0; g.activeAt(x, i) != -1 && i < 4; i++) {
+                    boolean old = held.contains(" " + g.activeAt(x, i) + " ");
+                    Kit.due("A(" + x + ") holds only what it held before crash(" + n + ")", old, true);
                 }
             }
         }
+        // The peer that is asked is not yet held, however few are left.
+        GossipOverlay g = new GossipOverlay(6, 2, 2, 2);
+        Kit.see(g, 0, 1, 2, 3, 4);
+        g.crash(3);
+        Kit.due("A(0)", Kit.active(g, 0), "4");
+        g.crash(4);
+        Kit.due("A(0)", Kit.active(g, 0), "");
     }
 
     private static void repairAfterTheSlotsAreFree() {

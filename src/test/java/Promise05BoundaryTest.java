@@ -21,25 +21,12 @@ public final class Promise05BoundaryTest {
 
     private static void notValid() {
         Kit.says("n is not a valid node;");
-        for (Supplier<GossipOverlay> made : States.OF_16) {
-            for (int wrong : Kit.NOT_NODES_OF_16) {
-                refused(made, wrong);
-            }
-        }
-        for (Supplier<GossipOverlay> made : States.OF_5) {
-            for (int wrong = 5; wrong <= 16; wrong++) {
-                refused(made, wrong);
-            }
-        }
+        States.refuseNoNode("broadcast", GossipOverlay::broadcast, -1);
     }
 
     private static void notAlive() {
         Kit.says("n is not alive;");
-        refused(() -> States.busy(16), 2);
-        refused(() -> States.full(16), 2);
-        for (Supplier<GossipOverlay> made : States.OF_5) {
-            refused(made, 2);
-        }
+        States.refuseTheDead("broadcast", GossipOverlay::broadcast, -1);
     }
 
     private static void allMade() {

@@ -22,26 +22,12 @@ public final class Promise06BoundaryTest {
 
     private static void noSlot() {
         Kit.says(REFUSED);
-        for (Supplier<GossipOverlay> made : States.OF_16) {
-            for (int wrong : Kit.NOT_SLOTS) {
-                refused(made, wrong);
-            }
-        }
+        States.refuseNoSlot("deliver", GossipOverlay::deliver, false);
     }
 
     private static void freeSlot() {
         Kit.says(REFUSED);
-        for (int slot = 0; slot < 64; slot++) {
-            refused(States::fresh, slot);
-        }
-        for (int nodes = 5; nodes <= 16; nodes += 11) {
-            int of = nodes;
-            for (int slot = 0; slot < 64; slot++) {
-                if (States.busy(of).message(slot) == -1) {
-                    refused(() -> States.busy(of), slot);
-                }
-            }
-        }
+        States.refuseFreeSlots("deliver", GossipOverlay::deliver, false);
         // Freed by a delivery, by a drop and by a crash, with used slots around.
         Supplier<GossipOverlay> freed = () -> {
             GossipOverlay g = new GossipOverlay(4, 2, 2, 2);

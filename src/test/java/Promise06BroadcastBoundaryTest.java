@@ -67,6 +67,18 @@ public final class Promise06BroadcastBoundaryTest {
         Kit.due("node 1, 0 lazy as before", Kit.node(peer, 1), "alive A[0] P[] E[] D3 W[]");
         Kit.due("message(3), a PRUNE 1>0", peer.message(3), 0x0c100000);
 
+        GossipOverlay last = new GossipOverlay(16, 2, 2, 2);
+        Kit.see(last, 15, 7);
+        Kit.see(last, 3, 7, 15);
+        Kit.see(last, 7, 15, 0);
+        last.broadcast(3);
+        last.deliver(1);
+        last.deliver(0);
+        Kit.due("the pool", Kit.pool(last), "0:GOSSIP 7>15 1, 1:GOSSIP 15>7 1, 2:GOSSIP 7>0 1");
+        last.deliver(1);
+        Kit.due("node 7, 15 lazy now", Kit.node(last, 7), "alive A[15 0] P[] E[0] D1 W[]");
+        Kit.due("message(1), a PRUNE 7>15", last.message(1), 0x0c7f0000);
+
         GossipOverlay other = twice(2);
         String before = Kit.node(other, 1);
         other.deliver(1);
@@ -305,13 +317,14 @@ public final class Promise06BroadcastBoundaryTest {
         Kit.due("the pool", Kit.pool(eager), "0:GOSSIP 0>1 1");
 
         GossipOverlay gone = grafting(2);
-        gone.join(2, 0);
-        gone.deliver(1);
-        gone.join(3, 0);
-        gone.deliver(4);
-        Kit.due("node 0, that has put 1 out", Kit.node(gone, 0), "alive A[2 3] P[1] E[2 3] D1 W[]");
+        for (int n = 2; n <= 5; n++) {
+            gone.join(n, 0);
+            gone.deliver(1);
+            Kit.dropAll(gone);
+        }
+        Kit.due("node 0, that knows 1 no more", Kit.node(gone, 0), "alive A[4 5] P[2 3] E[4 5] D1 W[]");
         gone.deliver(0);
-        Kit.due("node 0, as before", Kit.node(gone, 0), "alive A[2 3] P[1] E[2 3] D1 W[]");
+        Kit.due("node 0, as before", Kit.node(gone, 0), "alive A[4 5] P[2 3] E[4 5] D1 W[]");
         Kit.due("message(0), a GOSSIP 0>1 all the same", gone.message(0), 0x09010001);
 
         // 1 is made lazy at 0, hears of id 1 from it, and grafts.
@@ -372,13 +385,13 @@ public final class Promise06BroadcastBoundaryTest {
         GossipOverlay gone = twice();
         gone.deliver(1);
         gone.deliver(3);
-        for (int n = 4; n <= 5; n++) {
+        for (int n = 4; n <= 7; n++) {
             gone.join(n, 0);
             gone.deliver(2);
             Kit.dropAll(gone);
         }
-        Kit.due("node 0, that has put 1 out", Kit.node(gone, 0), "alive A[4 5] P[1] E[4 5] D3 W[]");
+        Kit.due("node 0, that knows 1 no more", Kit.node(gone, 0), "alive A[6 7] P[4 5] E[6 7] D3 W[]");
         gone.deliver(0);
-        Kit.due("node 0, as before", Kit.node(gone, 0), "alive A[4 5] P[1] E[4 5] D3 W[]");
+        Kit.due("node 0, as before", Kit.node(gone, 0), "alive A[6 7] P[4 5] E[6 7] D3 W[]");
     }
 }

@@ -69,18 +69,22 @@ public final class Promise06MembershipBoundaryTest {
     /** A walk for 9 has come by 0, 1 and 2, and lies in slot 0 on its way to 3, with t = 1. */
     private static GossipOverlay walk(int activeCap, int[] peersOf3, int[] peersOf4) {
         GossipOverlay g = new GossipOverlay(16, activeCap, 2, 2);
+        Kit.see(g, 3, peersOf3);
+        Kit.see(g, 4, peersOf4);
+        startWalk(g);
+        return g;
+    }
+
+    private static void startWalk(GossipOverlay g) {
         Kit.see(g, 0, 1);
         Kit.see(g, 1, 0, 2);
         Kit.see(g, 2, 1, 3);
-        Kit.see(g, 3, peersOf3);
-        Kit.see(g, 4, peersOf4);
         g.join(9, 0);
         g.deliver(0);
         g.drop(0);
         Kit.deliverNext(g);
         Kit.deliverNext(g);
         Kit.due("the pool", Kit.pool(g), "0:FORWARDJOIN 2>3 25");
-        return g;
     }
 
     private static GossipOverlay walkTo3(int activeCap, int... peersOf3) {
@@ -122,6 +126,17 @@ public final class Promise06MembershipBoundaryTest {
         arrives(walkTo3(3, 2), 3, "alive A[2 9] P[] E[2 9] D0 W[]", "0:LINK 3>9 0");
         arrives(walkTo3(3, 5), 3, "alive A[5 9] P[] E[5 9] D0 W[]", "0:LINK 3>9 0");
         arrives(walkTo3(3, 9), 3, "alive A[9] P[] E[9] D0 W[]", "");
+        // No passive entry is made for it on the way, for which a full passive view would lose one.
+        for (int peers = 0; peers <= 1; peers++) {
+            GossipOverlay g = new GossipOverlay(16, 3, 2, 2);
+            Kit.tell(g, 14, 3, 13);
+            if (peers == 1) {
+                Kit.see(g, 3, 2);
+            }
+            startWalk(g);
+            arrives(g, 3, peers == 0 ? "alive A[9] P[13 14] E[9] D0 W[]" : "alive A[2 9] P[13 14] E[2 9] D0 W[]",
+                "0:LINK 3>9 0");
+        }
         // With two peers and t above 0 it is not taken in.
         arrives(walkTo3(3, 2, 5), 3, "alive A[2 5] P[9] E[2 5] D0 W[]", "0:FORWARDJOIN 3>5 9");
         // With t = 0 it is, by however many peers.
@@ -406,6 +421,14 @@ public final class Promise06MembershipBoundaryTest {
         Kit.due("the pool", Kit.pool(again), "0:SHUFFLE 0>1 37");
         arrives(again, 1, "alive A[0 9] P[2 5] E[0 9] D0 W[]", "0:SHUFFLEREPLY 1>0 40");
 
+        // What is there already may be put out by a later one: 2 goes for 5, and stays out.
+        GossipOverlay out = new GossipOverlay(16, 2, 2, 2);
+        Kit.see(out, 1, 2, 9, 0, 8);
+        Kit.see(out, 0, 5, 1, 2);
+        out.shuffle(0);
+        Kit.due("the pool", Kit.pool(out), "0:SHUFFLE 0>1 37");
+        arrives(out, 1, "alive A[0 8] P[9 5] E[0 8] D0 W[]", "0:SHUFFLEREPLY 1>0 516");
+
         // Nothing new is offered: the view stays as it is, in its order.
         GossipOverlay known = new GossipOverlay(16, 2, 2, 2);
         Kit.see(known, 1, 5, 2, 0, 9);
@@ -460,5 +483,14 @@ public final class Promise06MembershipBoundaryTest {
         again.deliver(0);
         Kit.due("the pool", Kit.pool(again), "0:SHUFFLEREPLY 1>0 40");
         arrives(again, 0, "alive A[1 2] P[3 5] E[1 2] D0 W[]", "");
+
+        // And one in which 4 is there already, goes for 5 and stays out.
+        GossipOverlay out = new GossipOverlay(16, 2, 2, 2);
+        Kit.see(out, 0, 4, 6, 1, 2);
+        Kit.see(out, 1, 4, 5, 9, 10);
+        out.shuffle(0);
+        out.deliver(0);
+        Kit.due("the pool", Kit.pool(out), "0:SHUFFLEREPLY 1>0 48");
+        arrives(out, 0, "alive A[1 2] P[6 5] E[1 2] D0 W[]", "");
     }
 }

@@ -23,21 +23,12 @@ public final class Promise07BoundaryTest {
 
     private static void noSlot() {
         Kit.says("slot is not in 0..63;");
-        for (Supplier<GossipOverlay> made : States.OF_16) {
-            for (int wrong : Kit.NOT_SLOTS) {
-                refused(made, wrong);
-            }
-        }
+        States.refuseNoSlot("drop", GossipOverlay::drop, false);
     }
 
     private static void freeSlot() {
         Kit.says("the slot is free;");
-        for (int slot = 0; slot < 64; slot++) {
-            refused(States::fresh, slot);
-            if (States.busy(16).message(slot) == -1) {
-                refused(() -> States.busy(16), slot);
-            }
-        }
+        States.refuseFreeSlots("drop", GossipOverlay::drop, false);
         Supplier<GossipOverlay> dropped = () -> {
             GossipOverlay g = new GossipOverlay(3, 2, 2, 2);
             Kit.fillPool(g, 1, 0);

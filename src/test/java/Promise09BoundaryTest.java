@@ -32,15 +32,8 @@ public final class Promise09BoundaryTest {
 
     private static void noSlotOrFree() {
         Kit.says("It answers -1 if slot is not in 0..63 or the slot is free.");
-        for (Supplier<GossipOverlay> made : States.OF_16) {
-            for (int wrong : Kit.NOT_SLOTS) {
-                Kit.refused(made, "message(" + wrong + ")", g -> g.message(wrong), -1);
-            }
-        }
-        GossipOverlay fresh = States.fresh();
-        for (int slot = 0; slot < 64; slot++) {
-            Kit.due("message(" + slot + ") of an empty pool", fresh.message(slot), -1);
-        }
+        States.refuseNoSlot("message", GossipOverlay::message, -1);
+        States.refuseFreeSlots("message", GossipOverlay::message, -1);
         GossipOverlay g = new GossipOverlay(4, 2, 2, 2);
         Kit.see(g, 0, 1);
         Kit.fillPool(g, 1, 0);

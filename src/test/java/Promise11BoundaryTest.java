@@ -86,14 +86,9 @@ public final class Promise11BoundaryTest {
             Kit.due("delivered(" + n + ")", made.get().delivered(n), 1 << n);
         }
         for (int wrong : Kit.NOT_NODES_OF_16) {
-            Kit.refused(made, "delivered(" + wrong + ")", g -> g.delivered(wrong), 0);
+            Kit.due("delivered(" + wrong + ")", made.get().delivered(wrong), 0);
         }
-        for (Supplier<GossipOverlay> five : States.OF_5) {
-            for (int wrong = 5; wrong <= 16; wrong++) {
-                int n = wrong;
-                Kit.refused(five, "delivered(" + n + ")", g -> g.delivered(n), 0);
-            }
-        }
+        States.refuseNoNode("delivered", GossipOverlay::delivered, 0);
     }
 
     private static void deliveredOfACrashedNode() {

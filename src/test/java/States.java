@@ -1,5 +1,6 @@
 import java.util.List;
 import java.util.Random;
+import java.util.function.BiFunction;
 import java.util.function.Supplier;
 
 /**
@@ -14,6 +15,56 @@ final class States {
     static final List<Supplier<GossipOverlay>> OF_5 = List.of(() -> busy(5), () -> full(5), () -> spent(5));
 
     private States() {
+    }
+
+    /** The call of one node must be refused for every number that is no node. */
+    static void refuseNoNode(String name, BiFunction<GossipOverlay, Integer, Object> call, Object want) {
+        for (Supplier<GossipOverlay> made : OF_16) {
+            for (int wrong : Kit.NOT_NODES_OF_16) {
+                refuse(made, name, wrong, call, want);
+            }
+        }
+        for (Supplier<GossipOverlay> made : OF_5) {
+            for (int wrong = 5; wrong <= 16; wrong++) {
+                refuse(made, name, wrong, call, want);
+            }
+        }
+    }
+
+    /** The call of one node must be refused for the dead node 2. */
+    static void refuseTheDead(String name, BiFunction<GossipOverlay, Integer, Object> call, Object want) {
+        refuse(() -> busy(16), name, 2, call, want);
+        refuse(() -> full(16), name, 2, call, want);
+        for (Supplier<GossipOverlay> made : OF_5) {
+            refuse(made, name, 2, call, want);
+        }
+    }
+
+    /** The call of one slot must be refused for every number that is no slot. */
+    static void refuseNoSlot(String name, BiFunction<GossipOverlay, Integer, Object> call, Object want) {
+        for (Supplier<GossipOverlay> made : OF_16) {
+            for (int wrong : Kit.NOT_SLOTS) {
+                refuse(made, name, wrong, call, want);
+            }
+        }
+    }
+
+    /** The call of one slot must be refused for every slot that is free. */
+    static void refuseFreeSlots(String name, BiFunction<GossipOverlay, Integer, Object> call, Object want) {
+        for (int slot = 0; slot < 64; slot++) {
+            refuse(States::fresh, name, slot, call, want);
+            for (int nodes = 5; nodes <= 16; nodes += 11) {
+                int of = nodes;
+                if (busy(of).message(slot) == -1) {
+                    refuse(() -> busy(of), name, slot, call, want);
+                }
+            }
+        }
+    }
+
+    private static void refuse(Supplier<GossipOverlay> made, String name, int wrong,
+        BiFunction<GossipOverlay, Integer, Object> call, Object want) {
+        Kit.refused(made, name + "(" + wrong + ")", g -> call.apply(g, wrong), want);
     }
 
     static GossipOverlay fresh() {
