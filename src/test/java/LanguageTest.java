@@ -186,7 +186,8 @@ public final class LanguageTest extends TreePathScanner<Void, Void> {
     @Override
     public Void visitNewArray(NewArrayTree tree, Void none) {
         Element field = trees.getElement(getCurrentPath().getParentPath());
-        rule(4, tree, "an array is made in a field's initialiser", field != null && field.getKind() == ElementKind.FIELD);
+        rule(4, tree, "an array is made in a field's initialiser",
+            field != null && field.getKind() == ElementKind.FIELD);
         rule(4, tree, "an array has one dimension and no list of values",
             tree.getDimensions().size() == 1 && tree.getInitializers() == null);
         for (ExpressionTree length : tree.getDimensions()) {

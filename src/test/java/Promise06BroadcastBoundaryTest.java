@@ -39,7 +39,7 @@ public final class Promise06BroadcastBoundaryTest {
         Kit.due("the pool, no duplicate in all this", Kit.pool(g), "");
     }
 
-    /** Node 1, whose peers are given, has ids 0 and 1 from 3; node 0, that pushes them to it too, has them in 1 and 3. */
+    /** Node 1, whose peers are given, has ids 0 and 1 from 3; node 0 pushes them to it too, in slots 1 and 3. */
     private static GossipOverlay twice(int... peersOf1) {
         GossipOverlay g = new GossipOverlay(8, 2, 2, 2);
         Kit.see(g, 0, 1);

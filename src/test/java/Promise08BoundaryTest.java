@@ -94,6 +94,7 @@ public final class Promise08BoundaryTest {
     }
 
     private static void endsAtZero() {
+        // An empty ANN(y,b) does not come about here: it is emptied only together with its timer.
         Kit.says("If, after that decrease, it is 0 and ANN(y,b) is not empty:");
         for (int timeout = 1; timeout <= 8; timeout++) {
             GossipOverlay g = waiting(timeout, 2);

@@ -183,6 +183,7 @@ public final class StepsBoundaryTest {
     // ---- ADDA ----
 
     private static void addActiveOfADeadNode() {
+        // The case y==x does not come about: nobody sends to itself, and a walk is never sent to its joiner.
         Kit.says("If y==x, or y is not alive, or y is in A(x), nothing happens.");
         // A walk for 7, which dies on the way, ends at node 1: it has room, and no peer to send the walk on to.
         GossipOverlay room = new GossipOverlay(8, 2, 2, 2);
