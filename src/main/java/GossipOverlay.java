@@ -247,7 +247,8 @@ public final class GossipOverlay {
 
     private void onJoin(int x, int joiner) {
         addActive(x, joiner, true);
-        for (int i = 0; i < activeSize[x]; i++) {
+        int size = activeSize[x];
+        for (int i = 0; i < size; i++) {
             int peer = active[x * MAX_ACTIVE + i];
             if (peer != joiner) {
                 send(x, peer, FORWARDJOIN, joiner | (ARWL << 4));
@@ -402,7 +403,8 @@ public final class GossipOverlay {
     }
 
     private void forward(int x, int except, int ids) {
-        for (int i = 0; i < activeSize[x]; i++) {
+        int size = activeSize[x];
+        for (int i = 0; i < size; i++) {
             int peer = active[x * MAX_ACTIVE + i];
             if (peer != except) {
                 boolean eager = (eagerPeers[x] & (1 << peer)) != 0;

@@ -1,25 +1,53 @@
+import java.io.IOException;
 import java.lang.reflect.Constructor;
 import java.lang.reflect.Field;
 import java.lang.reflect.Method;
 import java.lang.reflect.Modifier;
+import java.nio.file.Files;
+import java.nio.file.Path;
+import java.util.ArrayList;
 import java.util.Arrays;
 import java.util.List;
 import java.util.Set;
 import java.util.TreeMap;
 import java.util.TreeSet;
 
-/** The public face of the document, and the rules of LANGUAGE.md that the compiled class shows. */
+/**
+ * The public face: the document's code block, line by line, beside the public lines of the class; and the compiled
+ * class, with what it shows of the rules of LANGUAGE.md.
+ */
 public final class FaceTest {
     private static final List<Class<?>> PLAIN = List.of(
         int.class, long.class, short.class, byte.class, char.class, boolean.class);
 
     public static void main(String[] args) throws Exception {
+        asInTheDocument();
         constants();
         constructor();
         methods();
         theClassItself();
         fields();
         Kit.end();
+    }
+
+    private static void asInTheDocument() throws IOException {
+        String document = Files.readString(Path.of("../shared/DOC.md"));
+        String section = document.substring(document.indexOf("## The public face"));
+        String block = section.substring(section.indexOf("```java"), section.indexOf("\n```\n"));
+        String source = Files.readString(Path.of("src/main/java/GossipOverlay.java"));
+        Kit.due("the number of public lines in the document", publicLines(block).size(), 34);
+        Kit.due("the public lines of the class", String.join("\n", publicLines(source)),
+            String.join("\n", publicLines(block)));
+    }
+
+    private static List<String> publicLines(String text) {
+        List<String> lines = new ArrayList<>();
+        for (String line : text.split("\n")) {
+            if (line.trim().startsWith("public ")) {
+                lines.add(line.trim().replaceAll(" ?\\{$", ""));
+            }
+        }
+        return lines;
     }
 
     private static void constants() throws IllegalAccessException {

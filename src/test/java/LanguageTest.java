@@ -3,6 +3,7 @@ import com.sun.source.util.JavacTask;
 import com.sun.source.util.SourcePositions;
 import com.sun.source.util.TreePath;
 import com.sun.source.util.TreePathScanner;
+import com.sun.source.util.TreeScanner;
 import com.sun.source.util.Trees;
 import java.io.IOException;
 import java.nio.file.Path;
@@ -255,18 +256,52 @@ public final class LanguageTest extends TreePathScanner<Void, Void> {
         return "a field's initialiser";
     }
 
-    /** A for loop whose counter goes up by one to a bound, and is set nowhere in the loop's body. */
+    /** A for loop whose counter goes up by one to a bound, both of which the loop's body leaves as they are. */
     private boolean countsUp(Tree tree) {
         if (!(tree instanceof ForLoopTree loop) || loop.getInitializer().size() != 1
-            || !(loop.getInitializer().get(0) instanceof VariableTree counter) || loop.getUpdate().size() != 1) {
+            || !(loop.getInitializer().get(0) instanceof VariableTree counter) || loop.getUpdate().size() != 1
+            || !(loop.getCondition() instanceof BinaryTree condition)) {
             return false;
         }
         String name = counter.getName().toString();
         boolean steps = loop.getUpdate().get(0).toString().equals(name + "++;");
-        boolean bounded = loop.getCondition() instanceof BinaryTree condition
-            && condition.getKind() == Tree.Kind.LESS_THAN && condition.getLeftOperand().toString().equals(name);
-        String body = loop.getStatement().toString();
-        return steps && bounded && !body.matches("(?s).*\\b" + name + " ?([-+*/%&|^]|<<|>>)?=[^=].*")
-            && !body.matches("(?s).*(\\b" + name + "(\\+\\+|--)|(\\+\\+|--)" + name + "\\b).*");
+        boolean bounded = condition.getKind() == Tree.Kind.LESS_THAN
+            && condition.getLeftOperand().toString().equals(name);
+        return steps && bounded && !isSet(name, loop.getStatement())
+            && staysPut(condition.getRightOperand(), loop.getStatement());
+    }
+
+    /** A number, a final field, a local variable or an entry of an array, that the lines of the body do not change. */
+    private boolean staysPut(ExpressionTree bound, StatementTree body) {
+        if (bound instanceof LiteralTree) {
+            return true;
+        }
+        if (bound instanceof IdentifierTree) {
+            Element element = trees.getElement(new TreePath(getCurrentPath(), bound));
+            return element.getModifiers().contains(Modifier.FINAL)
+                || element.getKind() != ElementKind.FIELD && !isSet(bound.toString(), body);
+        }
+        // What a method does to the array cannot be seen from the loop's own lines.
+        return bound instanceof ArrayAccessTree entry && !isSet(entry.getExpression().toString(), body)
+            && entry.getIndex() instanceof IdentifierTree index && !isSet(index.toString(), body)
+            && !hasCall(body);
+    }
+
+    private static boolean isSet(String name, StatementTree body) {
+        String place = "\\b" + name + "(\\[[^\\]]*\\])?";
+        return body.toString().matches("(?s).*" + place + " ?([-+*/%&|^]|<<|>>>?)?=[^=].*")
+            || body.toString().matches("(?s).*(" + place + "(\\+\\+|--)|(\\+\\+|--)" + place + ").*");
+    }
+
+    private static boolean hasCall(StatementTree body) {
+        boolean[] found = {false};
+        new TreeScanner<Void, Void>() {
+            @Override
+            public Void visitMethodInvocation(MethodInvocationTree tree, Void none) {
+                found[0] = true;
+                return null;
+            }
+        }.scan(body, null);
+        return found[0];
     }
 }

@@ -11,15 +11,24 @@ import java.util.regex.Matcher;
 import java.util.regex.Pattern;
 
 /**
- * Sets the words that the boundary tests quote, by Kit.says, beside the document: each quote stands in the
- * section that its test is about, and each sentence of that section is quoted by a test or named below.
+ * Sets the words that the tests quote, by Kit.says, beside the document: each quote stands in the section that
+ * its test is about, and each sentence of the document is quoted by a test or named below. The code block of
+ * "The public face" is FaceTest's.
  */
 public final class SentencesTest {
     /** Sentences that lead up to others, or tell what a name means, and name no case of their own. */
     private static final Set<String> NO_CASE = Set.of(
-        "Per node x:", "The following terms are used throughout:",
+        "Public constants:", "Per node x:", "The following terms are used throughout:",
         "The following steps are used by the methods and by message handling.", "Else, in this order:",
         "Repeat the following.", "At the start:", "Otherwise:", "Otherwise, in this order:", "Handling by kind:"
+    );
+
+    /** All of "Not promised": what it leaves free has no test. */
+    private static final Set<String> FREE = Set.of(
+        "The inner representation of views, sets, timers and the pool is free, and so are speed and memory use, "
+            + "as long as every answer and every change above holds exactly.",
+        "Behaviour of methods not listed in the public face (such as toString, equals and hashCode) is free.",
+        "Use of one object from several threads at once is not covered."
     );
 
     private static final Pattern SAYS = Pattern.compile("Kit\\.says\\(((?:\"(?:[^\"\\\\]|\\\\.)*\"|[^\"()])*)\\);");
@@ -29,7 +38,12 @@ public final class SentencesTest {
         Map<String, String> sections = sections(Files.readString(Path.of("../shared/DOC.md")));
         String start = sections.get("What it is");
         Map<String, Set<String>> quotes = quotes();
-        Kit.due("the sections with boundary tests", quotes.size(), 13);
+        Set<String> expected = new TreeSet<>(quotes.keySet());
+        expected.addAll(Set.of("# GossipOverlay", "The public face", "Not promised"));
+        Kit.due("the sections of the document", sections.keySet().toString(), expected.toString());
+        Kit.due("the sections that tests quote", quotes.size(), 14);
+        Kit.due("the sentences of \"Not promised\"",
+            new TreeSet<>(sentences(sections.get("Not promised"))).toString(), new TreeSet<>(FREE).toString());
         for (Map.Entry<String, Set<String>> entry : quotes.entrySet()) {
             String section = sections.get(entry.getKey());
             for (String quote : entry.getValue()) {
@@ -74,7 +88,7 @@ public final class SentencesTest {
         List<String> sentences = new ArrayList<>();
         for (String line : section.split("\n")) {
             String text = plain(line.replaceAll("^\\s*(-|\\d+\\.) ", "").replaceAll("\\*\\*[^*]*\\*\\*", "")).trim();
-            for (String sentence : text.split("(?<=[.:]) (?=[A-Z\"])")) {
+            for (String sentence : text.split("(?<=[^.]\\.) |(?<=:) (?=[A-Z\"])")) {
                 if (!sentence.isEmpty()) {
                     sentences.add(sentence);
                 }
@@ -85,18 +99,23 @@ public final class SentencesTest {
 
     // ---- The tests ----
 
-    /** What the boundary tests quote, by the section that they are about. */
+    /** What the tests quote, by the section that they are about. */
     private static Map<String, Set<String>> quotes() throws IOException {
         Map<String, Set<String>> quotes = new TreeMap<>();
-        try (var files = Files.newDirectoryStream(Path.of("src/test/java"), "*BoundaryTest.java")) {
+        try (var files = Files.newDirectoryStream(Path.of("src/test/java"), "{*BoundaryTest,WhatItIsTest}.java")) {
             for (Path file : files) {
-                String name = file.getFileName().toString();
-                String section = name.startsWith("Promise")
-                    ? "Promise " + Integer.parseInt(name.substring(7, 9)) : "State and shared steps";
+                String section = sectionOf(file.getFileName().toString());
                 quotes.computeIfAbsent(section, s -> new TreeSet<>()).addAll(quotesOf(Files.readString(file)));
             }
         }
         return quotes;
+    }
+
+    private static String sectionOf(String file) {
+        if (file.startsWith("Promise")) {
+            return "Promise " + Integer.parseInt(file.substring(7, 9));
+        }
+        return file.startsWith("WhatItIs") ? "What it is" : "State and shared steps";
     }
 
     private static Set<String> quotesOf(String test) {
